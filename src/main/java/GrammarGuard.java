@@ -28,8 +28,8 @@ public final class GrammarGuard {
     private static final long ENDLESS = 9_000_000_000_000_000_000L;
 
     private final Signs signs = new Signs();
-    private final int[] letters = new int[MOST_WORD];
-    private int letterCount;
+    private final int[] theWord = new int[MOST_WORD];
+    private int wordLength;
 
     private final Grammar rules = new Grammar();
     private final Grammar draftRules = new Grammar();
@@ -41,7 +41,6 @@ public final class GrammarGuard {
     private final PairWalk pairWalk = new PairWalk();
 
     private final Product[] products = {new Product(), new Product()};
-    private final Search search = new Search();
     private final Witness held = new Witness();
 
     public GrammarGuard() {
@@ -61,7 +60,7 @@ public final class GrammarGuard {
             return NONE - fault;
         }
         for (int i = 0; i < signs.length; i++) {
-            letters[i] = letterOf(signs.signAt(i));
+            theWord[i] = letterOf(signs.signAt(i));
         }
         return setWordLength(signs.length);
     }
@@ -104,7 +103,7 @@ public final class GrammarGuard {
             case 0: return rules.variables;
             case 1: return rules.rules;
             case 2: return signs.told;
-            case 3: return letterCount;
+            case 3: return wordLength;
             default: return BAD;
         }
     }
@@ -143,7 +142,7 @@ public final class GrammarGuard {
         if (!isVariable(x)) {
             return BAD;
         }
-        return toldNumber(counter.ofWord(rules, letters, letterCount, x));
+        return toldNumber(counter.ofWord(rules, theWord, wordLength, x));
     }
 
     public long treesOf(int letters) {
@@ -183,8 +182,8 @@ public final class GrammarGuard {
         }
         Machine machine = machines[which];
         int state = 0;
-        for (int i = 0; i < letterCount; i++) {
-            state = machine.after(state, letters[i]);
+        for (int i = 0; i < wordLength; i++) {
+            state = machine.after(state, theWord[i]);
         }
         return machine.endsIn(state) ? 1 : 0;
     }
@@ -200,7 +199,7 @@ public final class GrammarGuard {
         if (length > MOST_WORD) {
             return GREAT;
         }
-        pairWalk.write(letters, length);
+        pairWalk.write(theWord, length);
         return setWordLength(length);
     }
 
@@ -215,8 +214,8 @@ public final class GrammarGuard {
         if ((startEnds(which) & ~machine.last) == 0) {
             return 1;
         }
-        if (search.find(rules, machine)) {
-            held.hold(rules, machine, search);
+        if (held.search.find(rules, machine)) {
+            held.hold(rules, machine);
         }
         return 0;
     }
@@ -248,7 +247,7 @@ public final class GrammarGuard {
         }
         int length = (int) Math.min(MOST_WORD, held.rootLength());
         for (int i = 0; i < length; i++) {
-            letters[i] = held.letterAt(i);
+            theWord[i] = held.letterAt(i);
         }
         return setWordLength(length);
     }
@@ -297,7 +296,7 @@ public final class GrammarGuard {
     }
 
     private int setWordLength(int length) {
-        letterCount = length;
+        wordLength = length;
         counter.forgetWord();
         return length;
     }
@@ -638,7 +637,7 @@ public final class GrammarGuard {
 
         private final int[] numbers = new int[NAMES];
         private final int[] firstUses = new int[NAMES];
-        private Grammar into;
+        private Grammar into = new Grammar();
         private int awaited;
         private boolean opened;
 
@@ -748,8 +747,8 @@ public final class GrammarGuard {
     private static final class TreeCounter {
         private static final int ENDS = MOST_WORD + 1, DEPTHS = MOST_SYMBOLS + 1;
 
-        private Grammar rules;
-        private int[] letters;
+        private Grammar rules = new Grammar();
+        private int[] letters = new int[MOST_WORD];
         private int length;
         private boolean anyLetters;
 
@@ -779,9 +778,9 @@ public final class GrammarGuard {
             lengthsCounted = false;
         }
 
-        long ofWord(Grammar grammar, int[] word, int wordLength, int x) {
+        long ofWord(Grammar grammar, int[] word, int letterCount, int x) {
             if (!wordCounted) {
-                prepare(grammar, word, wordLength, false);
+                prepare(grammar, word, letterCount, false);
                 for (int first = length - 1; first >= 0; first--) {
                     countFrom(first);
                 }
@@ -806,10 +805,10 @@ public final class GrammarGuard {
             return byLength[wanted];
         }
 
-        private void prepare(Grammar grammar, int[] word, int wordLength, boolean any) {
+        private void prepare(Grammar grammar, int[] word, int letterCount, boolean any) {
             rules = grammar;
             letters = word;
-            length = wordLength;
+            length = letterCount;
             anyLetters = any;
             countEmpty();
             fillLeads();
@@ -1105,8 +1104,8 @@ public final class GrammarGuard {
         private static final int PAIR_ROW = MOST_STATES + 1;
 
         private int kind;
-        private Machine left;
-        private Machine right;
+        private Machine left = new Machine();
+        private Machine right = left;
         private int places;
         private boolean great;
 
@@ -1152,7 +1151,7 @@ public final class GrammarGuard {
                 case ANY_TIMES: placeOf(1, 0); break;
                 default: placeOf(0, 0); break;
             }
-            for (int place = 0; place < places && !great; place++) {
+            for (int place = 0; place < places && place < MOST_PLACES && !great; place++) {
                 for (int letter = 0; letter < LETTERS && !great; letter++) {
                     steps[place * LETTERS + letter] = goOn(states[place], sets[place], letter);
                 }
@@ -1255,7 +1254,7 @@ public final class GrammarGuard {
             samples[0] = 0;
             int numbered = 1;
             into.last = 0;
-            for (int state = 0; state < numbered; state++) {
+            for (int state = 0; state < numbered && state < MOST_STATES; state++) {
                 if (good[samples[state]]) {
                     into.last |= 1L << state;
                 }
@@ -1347,12 +1346,20 @@ public final class GrammarGuard {
         boolean build(Signs signs) {
             depth = 0;
             open();
-            for (int i = 0; i < signs.length; i++) {
-                if (!add(signs.signAt(i))) {
-                    return false;
+            boolean small = true;
+            for (int i = 0; small && i < signs.length; i++) {
+                int sign = signs.signAt(i);
+                switch (sign) {
+                    case '*': small = maker.make(MachineMaker.ANY_TIMES, item, item, item); break;
+                    case '+': small = maker.make(MachineMaker.OFTEN, item, item, item); break;
+                    case '?': small = maker.make(MachineMaker.EITHER, item, emptyWord, item); break;
+                    case '|': small = endItem() && endRow(); break;
+                    case '&': small = endItem() && endRow() && endSum(); break;
+                    case ')': small = endItem() && endRow() && endSum() && close(); break;
+                    default: small = endItem() && begin(sign); break;
                 }
             }
-            return endItem() && endRow() && endSum();
+            return small && endItem() && endRow() && endSum();
         }
 
         Machine result() {
@@ -1365,18 +1372,6 @@ public final class GrammarGuard {
             rowBegun[depth] = false;
             turned[depth] = false;
             itemOpen = false;
-        }
-
-        private boolean add(int sign) {
-            switch (sign) {
-                case '*': return maker.make(MachineMaker.ANY_TIMES, item, item, item);
-                case '+': return maker.make(MachineMaker.OFTEN, item, item, item);
-                case '?': return maker.make(MachineMaker.EITHER, item, emptyWord, item);
-                case '|': return endItem() && endRow();
-                case '&': return endItem() && endRow() && endSum();
-                case ')': return endItem() && endRow() && endSum() && close();
-                default: return endItem() && begin(sign);
-            }
         }
 
         private boolean begin(int sign) {
@@ -1416,31 +1411,32 @@ public final class GrammarGuard {
                 item.turnRound();
                 turned[depth] = false;
             }
-            boolean joined = join(MachineMaker.BEHIND, rowBegun[depth], rows[depth], item);
+            if (rowBegun[depth]) {
+                return maker.make(MachineMaker.BEHIND, rows[depth], item, rows[depth]);
+            }
             rowBegun[depth] = true;
-            return joined;
+            rows[depth].takeFrom(item);
+            return true;
         }
 
         private boolean endRow() {
             Machine row = rowBegun[depth] ? rows[depth] : emptyWord;
             rowBegun[depth] = false;
-            boolean joined = join(MachineMaker.EITHER, sumBegun[depth], sums[depth], row);
+            if (sumBegun[depth]) {
+                return maker.make(MachineMaker.EITHER, sums[depth], row, sums[depth]);
+            }
             sumBegun[depth] = true;
-            return joined;
+            sums[depth].takeFrom(row);
+            return true;
         }
 
         private boolean endSum() {
             sumBegun[depth] = false;
-            boolean joined = join(MachineMaker.BOTH, wholeBegun[depth], wholes[depth], sums[depth]);
-            wholeBegun[depth] = true;
-            return joined;
-        }
-
-        private boolean join(int how, boolean begun, Machine sofar, Machine part) {
-            if (begun) {
-                return maker.make(how, sofar, part, sofar);
+            if (wholeBegun[depth]) {
+                return maker.make(MachineMaker.BOTH, wholes[depth], sums[depth], wholes[depth]);
             }
-            sofar.takeFrom(part);
+            wholeBegun[depth] = true;
+            wholes[depth].takeFrom(sums[depth]);
             return true;
         }
     }
@@ -1453,8 +1449,8 @@ public final class GrammarGuard {
         private final int[] origin = new int[PAIRS];
         private final int[] entry = new int[PAIRS];
         private final boolean[] seen = new boolean[PAIRS];
-        private Machine first;
-        private Machine second;
+        private Machine first = new Machine();
+        private Machine second = first;
         private int what;
         private int target;
 
@@ -1470,7 +1466,7 @@ public final class GrammarGuard {
             origin[0] = -1;
             queue[0] = 0;
             int queued = 1;
-            for (int i = 0; i < queued; i++) {
+            for (int i = 0; i < queued && i < PAIRS; i++) {
                 int pair = queue[i];
                 if (isWanted(pair)) {
                     target = pair;
@@ -1533,8 +1529,8 @@ public final class GrammarGuard {
 
         boolean fresh;
         final long[] fertile = new long[ROWS];
-        private Grammar rules;
-        private Machine machine;
+        private Grammar rules = new Grammar();
+        private Machine machine = new Machine();
         private final long[] ahead = new long[MOST_SYMBOLS + 1];
 
         private final long[] standing = new long[ROWS];
@@ -1697,9 +1693,9 @@ public final class GrammarGuard {
         private static final int PARTS = MOST_RULES * (MOST_SYMBOLS - 1) * MOST_STATES * MOST_STATES;
         private static final int NOTHING = -1;
 
-        private Grammar rules;
-        private Machine machine;
-        private int states;
+        private Grammar rules = new Grammar();
+        private Machine machine = new Machine();
+        private int states = 1;
         int root;
 
         final long[] lengths = new long[TRIPLES];
@@ -1901,17 +1897,18 @@ public final class GrammarGuard {
             heapCount--;
             int moved = heap[heapCount];
             int at = 0;
-            for (int below = lesserBelow(at); below < heapCount && isLess(heap[below], moved); below = lesserBelow(at)) {
+            for (int below = 1; below < heapCount; below = 2 * at + 1) {
+                if (below + 1 < heapCount && isLess(heap[below + 1], heap[below])) {
+                    below++;
+                }
+                if (!isLess(heap[below], moved)) {
+                    break;
+                }
                 sit(heap[below], at);
                 at = below;
             }
             sit(moved, at);
             return least;
-        }
-
-        private int lesserBelow(int seat) {
-            int below = 2 * seat + 1;
-            return below + 1 < heapCount && isLess(heap[below + 1], heap[below]) ? below + 1 : below;
         }
 
         /** What is not settled yet has the length MOST, whatever it is put together from. */
@@ -1963,9 +1960,9 @@ public final class GrammarGuard {
         private static final int STATE_BITS = 6, STATE_MASK = 63;
 
         boolean atHand;
+        final Search search = new Search();
         private final Grammar rules = new Grammar();
-        private Machine machine;
-        private Search search;
+        private Machine machine = new Machine();
 
         private final int[] chosen = new int[Search.TRIPLES];
         private final int[] between = new int[Search.TRIPLES];
@@ -1994,10 +1991,9 @@ public final class GrammarGuard {
         }
 
         /** Trees of lesser triples were settled before, so one way down chooses and one way up counts. */
-        void hold(Grammar grammar, Machine automaton, Search found) {
+        void hold(Grammar grammar, Machine automaton) {
             rules.takeFrom(grammar);
             machine = automaton;
-            search = found;
             for (int i = 0; i < search.settled; i++) {
                 nodes[search.order[i]] = 0;
             }
