@@ -271,6 +271,8 @@ public final class PromiseRuns {
         due("stays", x.isLast(0, -1), 4);
         due("many places", expression(x, 1, ".*(a........(.*))"), 10);
         due("too many places", expression(x, 0, ".*(a..........(.*))"), -1000);
+        due("1974 places", expression(x, 1, "(a.b?.....(b|c)(a|.b)*|.)+"), 2);
+        due("2003 places", expression(x, 0, "(ab?...(a|b)..(a|b)(b|c)a(.*)|.)+"), -1000);
         due("the same, part by part", expression(x, 1, ".*a..(.*)"), 4);
     }
 
@@ -655,7 +657,10 @@ public final class PromiseRuns {
         due("what", x.product(0, -1), -1);
         due("which", x.product(2, 0), -1);
         due("which", x.product(-1, 0), -1);
+        due("fertile", x.product(1, 0), 8);
+        due("standing", x.product(1, 1), 5);
         grammar(x, "S=S;");
+        due("none", x.product(1, 0) + x.product(1, 1) + x.product(1, 2), 0);
         due("none", x.product(0, 0) + x.product(0, 1) + x.product(0, 2), 0);
         expression(x, 0, "0");
         grammar(x, "S=SS|a;T=SS;");

@@ -57,7 +57,7 @@ public final class GrammarGuard {
         signs.take();
         int fault = faultOfWord();
         if (fault != NO_FAULT) {
-            return NONE - fault;
+            return toldFault(fault);
         }
         for (int i = 0; i < signs.length; i++) {
             theWord[i] = letterOf(signs.signAt(i));
@@ -69,7 +69,7 @@ public final class GrammarGuard {
         signs.take();
         int fault = grammarReader.read(signs, draftRules);
         if (fault != NO_FAULT) {
-            return NONE - fault;
+            return toldFault(fault);
         }
         rules.takeFrom(draftRules);
         rules.learn();
@@ -86,7 +86,7 @@ public final class GrammarGuard {
         signs.take();
         int fault = expressionReader.faultIn(signs);
         if (fault != NO_FAULT) {
-            return NONE - fault;
+            return toldFault(fault);
         }
         if (!expressionReader.build(signs)) {
             return GREAT_EXPRESSION;
@@ -309,6 +309,10 @@ public final class GrammarGuard {
             }
         }
         return NO_FAULT;
+    }
+
+    private static int toldFault(int place) {
+        return -2 - place;
     }
 
     private static boolean isLetterSign(int sign) {
@@ -634,6 +638,7 @@ public final class GrammarGuard {
     /** Reads a grammar sign by sign, and finds the place of its fault. */
     private static final class GrammarReader {
         private static final int HEAD = 0, EQUALS = 1, ROW = 2;
+        private static final int MISSING = -1;
 
         private final int[] numbers = new int[NAMES];
         private final int[] firstUses = new int[NAMES];
@@ -646,8 +651,8 @@ public final class GrammarGuard {
             into.clear();
             awaited = HEAD;
             opened = false;
-            Arrays.fill(numbers, NO_FAULT);
-            Arrays.fill(firstUses, NO_FAULT);
+            Arrays.fill(numbers, MISSING);
+            Arrays.fill(firstUses, MISSING);
             for (int i = 0; i < signs.length; i++) {
                 if (!takes(signs.signAt(i), signs.placeAt(i))) {
                     return signs.placeAt(i);
@@ -675,7 +680,7 @@ public final class GrammarGuard {
         }
 
         private boolean takesHead(int sign) {
-            if (!isNameSign(sign) || numbers[sign - 'A'] >= 0 || into.variables >= MOST_VARIABLES) {
+            if (!isNameSign(sign) || numbers[sign - 'A'] != MISSING || into.variables >= MOST_VARIABLES) {
                 return false;
             }
             numbers[sign - 'A'] = into.variables;
@@ -709,7 +714,7 @@ public final class GrammarGuard {
             if (!isName && !isLetterSign(sign) || into.lengths[into.rules - 1] >= MOST_SYMBOLS) {
                 return false;
             }
-            if (isName && firstUses[sign - 'A'] == NO_FAULT) {
+            if (isName && firstUses[sign - 'A'] == MISSING) {
                 firstUses[sign - 'A'] = place;
             }
             into.addSymbol(isName ? VARIABLE + sign - 'A' : letterOf(sign));
@@ -720,7 +725,7 @@ public final class GrammarGuard {
             int first = NO_FAULT;
             for (int name = 0; name < NAMES; name++) {
                 int use = firstUses[name];
-                if (use != NO_FAULT && numbers[name] < 0 && (first == NO_FAULT || use < first)) {
+                if (use != MISSING && numbers[name] == MISSING && (first == NO_FAULT || use < first)) {
                     first = use;
                 }
             }
