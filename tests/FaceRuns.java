@@ -103,20 +103,14 @@ public final class FaceRuns {
         return room;
     }
 
-    private static void tell(GrammarGuard x, String text) {
-        for (int i = 0; i < text.length(); i++) {
-            x.ask(text.charAt(i));
-        }
-    }
-
     private static void checkRoom() throws IllegalAccessException {
         GrammarGuard x = new GrammarGuard();
         long[] before = roomOf(x);
         System.out.println("an object has " + before[0] + " objects and arrays, " + before[1] + " fields and elements");
-        due("small enough", before[0] < 1000 && before[1] < 1_000_000, true);
-        tell(x, "S=SS|aTb|;T=STS|c;");
+        due("within the room of a run", before[0] < 600_000 && before[1] < 7_300_000, true);
+        Talk.tell(x, "S=SS|aTb|;T=STS|c;");
         x.grammar();
-        tell(x, "!(.*a....)");
+        Talk.tell(x, "!(.*a....)");
         x.expression(0);
         x.within(0);
         x.copy();
@@ -136,9 +130,9 @@ public final class FaceRuns {
         for (String grammar : grammars) {
             for (String expression : expressions) {
                 GrammarGuard x = new GrammarGuard();
-                tell(x, grammar);
+                Talk.tell(x, grammar);
                 x.grammar();
-                tell(x, expression);
+                Talk.tell(x, expression);
                 x.expression(1);
                 x.within(1);
                 for (int a : ints) {

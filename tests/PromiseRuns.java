@@ -1,50 +1,5 @@
 /** Each promise of the document, by hand: ordinary inputs, the edges that the document names, wrong inputs. */
-public final class PromiseRuns {
-    private static final long MOST = 4_000_000_000_000_000_000L;
-    private static int wrong = 0;
-    private static int promise = 0;
-
-    private static void due(String call, long got, long want) {
-        if (got != want) {
-            wrong++;
-            System.out.println("promise " + promise + ": " + call + " answered " + got + ", due is " + want);
-        }
-    }
-
-    private static void tell(GrammarGuard x, String text) {
-        for (int i = 0; i < text.length(); i++) {
-            x.ask(text.charAt(i));
-        }
-    }
-
-    private static int word(GrammarGuard x, String text) {
-        tell(x, text);
-        return x.word();
-    }
-
-    private static int grammar(GrammarGuard x, String text) {
-        tell(x, text);
-        return x.grammar();
-    }
-
-    private static int expression(GrammarGuard x, int which, String text) {
-        tell(x, text);
-        return x.expression(which);
-    }
-
-    private static GrammarGuard withGrammar(String text) {
-        GrammarGuard x = new GrammarGuard();
-        grammar(x, text);
-        return x;
-    }
-
-    private static GrammarGuard with(String grammar, String first, String second) {
-        GrammarGuard x = withGrammar(grammar);
-        expression(x, 0, first);
-        expression(x, 1, second);
-        return x;
-    }
-
+public final class PromiseRuns extends Talk {
     public static void main(String[] args) {
         newObject();
         ask();
@@ -69,14 +24,11 @@ public final class PromiseRuns {
         copy();
         product();
         meets();
-        System.out.println(wrong == 0 ? "all answers are as due" : wrong + " answers are not as due");
-        if (wrong != 0) {
-            System.exit(1);
-        }
+        end();
     }
 
     private static void newObject() {
-        promise = 1;
+        says(1, "by hand");
         GrammarGuard x = new GrammarGuard();
         for (int what = 0; what < 4; what++) {
             due("count", x.count(what), 0);
@@ -106,7 +58,7 @@ public final class PromiseRuns {
     }
 
     private static void ask() {
-        promise = 2;
+        says(2, "by hand");
         GrammarGuard x = new GrammarGuard();
         due("31", x.ask(31), -1);
         due("127", x.ask(127), -1);
@@ -128,7 +80,7 @@ public final class PromiseRuns {
     }
 
     private static void word() {
-        promise = 3;
+        says(3, "by hand");
         GrammarGuard x = new GrammarGuard();
         due("word", word(x, "abj"), 3);
         due("letters", x.count(3), 3);
@@ -148,7 +100,7 @@ public final class PromiseRuns {
     }
 
     private static void grammar() {
-        promise = 4;
+        says(4, "by hand");
         GrammarGuard x = new GrammarGuard();
         due("none", x.grammar(), -2);
         due("blanks", grammar(x, "  "), -2 - 2);
@@ -193,7 +145,7 @@ public final class PromiseRuns {
     }
 
     private static void expression() {
-        promise = 5;
+        says(5, "by hand");
         GrammarGuard x = new GrammarGuard();
         tell(x, "ab");
         due("another", x.expression(2), -1);
@@ -241,7 +193,7 @@ public final class PromiseRuns {
     }
 
     private static void machineNumbers() {
-        promise = 5;
+        says(5, "by hand");
         GrammarGuard x = new GrammarGuard();
         expression(x, 0, "b");
         due("a of b", x.next(0, 0, 0), 1);
@@ -259,7 +211,7 @@ public final class PromiseRuns {
     }
 
     private static void greatExpressions() {
-        promise = 5;
+        says(5, "by hand");
         GrammarGuard x = new GrammarGuard();
         expression(x, 0, "ab");
         due("40 states", expression(x, 1, "a".repeat(38)), 40);
@@ -277,7 +229,7 @@ public final class PromiseRuns {
     }
 
     private static void count() {
-        promise = 6;
+        says(6, "by hand");
         GrammarGuard x = withGrammar("S=a|bT;T=;");
         word(x, "ab");
         tell(x, "abc ");
@@ -291,7 +243,7 @@ public final class PromiseRuns {
     }
 
     private static void rule() {
-        promise = 7;
+        says(7, "by hand");
         GrammarGuard x = withGrammar("S=aTj|;T=STb;");
         due("head", x.rule(0, 0), 0);
         due("length", x.rule(0, 1), 3);
@@ -318,7 +270,7 @@ public final class PromiseRuns {
     }
 
     private static void variable() {
-        promise = 8;
+        says(8, "by hand");
         GrammarGuard x = withGrammar("S=AB|C;A=aA|a;B=|E;C=CS;D=b;E=F;F=E|FF|;");
         variableIs(x, 0, 'S', 1, 1, 0, 1, 2, 1);
         variableIs(x, 1, 'A', 1, 1, 0, 1, 1, 1);
@@ -343,7 +295,7 @@ public final class PromiseRuns {
     }
 
     private static void trees() {
-        promise = 9;
+        says(9, "by hand");
         GrammarGuard x = withGrammar("S=SS|a|b;T=aa;");
         due("no letters", x.trees(0), 0);
         word(x, "ab");
@@ -377,7 +329,7 @@ public final class PromiseRuns {
     }
 
     private static void treesOf() {
-        promise = 10;
+        says(10, "by hand");
         GrammarGuard x = withGrammar("S=SS|a|b;");
         due("0", x.treesOf(0), 0);
         due("1", x.treesOf(1), 2);
@@ -400,7 +352,7 @@ public final class PromiseRuns {
     }
 
     private static void next() {
-        promise = 11;
+        says(11, "by hand");
         GrammarGuard x = new GrammarGuard();
         expression(x, 1, "ab");
         due("a", x.next(1, 0, 0), 1);
@@ -418,7 +370,7 @@ public final class PromiseRuns {
     }
 
     private static void isLast() {
-        promise = 12;
+        says(12, "by hand");
         GrammarGuard x = new GrammarGuard();
         expression(x, 1, "ab");
         due("how many", x.isLast(1, -1), 4);
@@ -433,7 +385,7 @@ public final class PromiseRuns {
     }
 
     private static void has() {
-        promise = 13;
+        says(13, "by hand");
         GrammarGuard x = new GrammarGuard();
         expression(x, 0, "(ab)*");
         expression(x, 1, "!(.*bb.*)");
@@ -449,7 +401,7 @@ public final class PromiseRuns {
     }
 
     private static void apart() {
-        promise = 14;
+        says(14, "by hand");
         GrammarGuard x = new GrammarGuard();
         expression(x, 0, "(a|b)*b");
         expression(x, 1, "a*|bb|b");
@@ -489,7 +441,7 @@ public final class PromiseRuns {
     }
 
     private static void within() {
-        promise = 15;
+        says(15, "by hand");
         GrammarGuard x = with("S=aSb|;", "a*b*", "(ab)*");
         due("all", x.within(0), 1);
         due("none at hand", x.witness(0), -2);
@@ -507,7 +459,7 @@ public final class PromiseRuns {
     }
 
     private static void witness() {
-        promise = 16;
+        says(16, "by hand");
         GrammarGuard x = with("S=aSb|T;T=cT|d;", "a*dc*b*|!(.*d.*)", "0");
         due("not all", x.within(0), 0);
         due("adb or cd", x.witness(0), 2);
@@ -553,7 +505,7 @@ public final class PromiseRuns {
     }
 
     private static void letterAndNode() {
-        promise = 17;
+        says(17, "by hand");
         GrammarGuard x = with("S=aTbTc;T=dU|;U=T;", "!(adbc)", "");
         due("within", x.within(0), 0);
         due("length", x.witness(0), 4);
@@ -565,7 +517,7 @@ public final class PromiseRuns {
         due("letter -1", x.letter(-1), -2);
         due("letter most", x.letter(Long.MAX_VALUE), -2);
         due("letter least", x.letter(Long.MIN_VALUE), -2);
-        promise = 18;
+        says(18, "by hand");
         long[][] nodes = {{0, 0, 5, 4, 0}, {1, 1, 3, 1, 1}, {2, 3, 2, 0, 2}, {1, 2, 1, 0, 2}, {1, 2, 1, 0, 3}};
         for (int k = 0; k < nodes.length; k++) {
             due("variable of " + k, x.node(k, 0), nodes[k][0]);
@@ -592,7 +544,7 @@ public final class PromiseRuns {
 
     /** Words of brackets a .. b in which c stands 15 deep alone, doubled many times on the way. */
     private static void longWitness() {
-        promise = 18;
+        says(18, "by hand");
         String nest = "c+";
         for (int i = 0; i < 14; i++) {
             nest = "(a" + nest + "b)+";
@@ -624,13 +576,13 @@ public final class PromiseRuns {
         due("a late node", x.node(MOST - 1, 5), 6);
         due("none later", x.node(MOST, 5), -2);
         due("root's nodes", x.node(1, 4), MOST);
-        promise = 19;
+        says(19, "by hand");
         due("copy", x.copy(), 40);
         due("its letters", x.count(3), 40);
     }
 
     private static void copy() {
-        promise = 19;
+        says(19, "by hand");
         GrammarGuard x = with("S=aSb|;", "!(aabb)", "0");
         due("within", x.within(0), 0);
         due("copy", x.copy(), 4);
@@ -648,7 +600,7 @@ public final class PromiseRuns {
     }
 
     private static void product() {
-        promise = 20;
+        says(20, "by hand");
         GrammarGuard x = with("S=aSb|;T=a;", "a*b*", "(ab)*");
         due("fertile", x.product(0, 0), 8);
         due("standing", x.product(0, 1), 2);
@@ -670,7 +622,7 @@ public final class PromiseRuns {
     }
 
     private static void meets() {
-        promise = 21;
+        says(21, "by hand");
         GrammarGuard x = with("S=aSb|;", "a*b*", "a+");
         due("in", x.meets(0, 0), 1);
         due("out", x.meets(0, 1), 0);
