@@ -299,7 +299,7 @@ public final class BoundaryExpressions extends Talk {
     }
 
     private static void faultAheadOfGreat() {
-        says(5, "- 2 less the place of the first sign that can't come (.. if it ends too early); - 1,000 GREAT");
+        says(5, "- 2 less the place of the first sign that can't come (how many there are, if it ends too early); - 1,000 GREAT");
         due("a sign that can't come", expressionOf("a".repeat(60) + "k"), faultAt(60));
         due("it ends too early", expressionOf("a".repeat(60) + "("), faultAt(61));
     }

@@ -119,6 +119,8 @@ public final class BoundaryGrammars extends Talk {
     private static void variableWithoutPart() {
         says(0, "one in an ALTERNATIVE that has no part (the first such one");
         due("alone", grammarOf("S=T;"), faultAt(2));
+        due("the first name", grammarOf("S=A;"), faultAt(2));
+        due("the last name", grammarOf("S=Z;"), faultAt(2));
         due("the first of two", grammarOf("S=aU|T;"), faultAt(3));
         due("behind one that has a part", grammarOf("S=TU;T=;"), faultAt(3));
         due("twice in the text", grammarOf("S=aT;R=T;"), faultAt(3));

@@ -136,6 +136,7 @@ public final class BoundaryMachines extends Talk {
         dueApart("|b|c", "c|d", 0, "");
         dueApart("|b|c", "|c|d", 2, "");
         dueApart("|b|c", "|c|d", 3, "a");
+        dueApart("a*b", "(a|c)*b", 2, "b");
     }
 
     private static void shorterComesFirst() {

@@ -28,6 +28,7 @@ public final class BoundaryNumbers extends Talk {
         lengthOfANode();
         placeOfItsFirstLetter();
         comparedAsThat();
+        longOneBehindAnother();
         comparedBelowThat();
         copyOfALongOne();
         end();
@@ -178,6 +179,17 @@ public final class BoundaryNumbers extends Talk {
         due("one more is as long as just as many: the first rule", x.node(0, 1), 0);
         x = withNest("S=XWWdd|XWWd|XWWddd;W=ddddd;" + LETTERS);
         due("two more, one more, three more: the first rule", x.node(0, 1), 0);
+    }
+
+    private static void longOneBehindAnother() {
+        says(15, "or 0, and its WITNESS is at hand (a long one behind another)");
+        GrammarGuard x = withLetters(MOST + 1);
+        grammar(x, "S=Fddddd|XWWd;F=Xddddd;W=ddddd;" + LETTERS);
+        due("within", x.within(0), 0);
+        due("its rule", x.node(0, 1), 1);
+        due("its height", x.witness(1), HEIGHT_OF_X + 1);
+        due("its nodes", x.witness(2), nodesOfX() + 3);
+        due("its length", x.witness(0), MOST);
     }
 
     private static void comparedBelowThat() {

@@ -166,10 +166,13 @@ public final class BoundaryTrees extends Talk {
         dueOfVariables("S=S|a;", 6, 0);
         dueOfVariables("S=SS|;", 6, 0);
         dueOfVariables("S=SS|a;", 6, 1);
+        dueOfVariables("S=a|SS;", 6, 1);
+        dueOfVariables("S=aT;T=bUc;U=d;", 6, 0, 0, 0);
         dueOfVariables("S=ST|;T=;", 6, 0, 0);
         dueOfVariables("S=ST|;T=|a;", 6, 1, 0);
         dueOfVariables("S=T;T=U|a;U=TT;", 6, 1, 1, 1);
         dueOfVariables("S=a;T=aT|;", 6, 0, 1);
+        dueOfVariables("S=aU;T=S;U=aU|;", 6, 1, 1, 1);
         dueOfVariables("S=a|T;T=aTU|b;U=U;", 6, 0, 0, 0);
     }
 
@@ -205,6 +208,9 @@ public final class BoundaryTrees extends Talk {
         dueTrees("S=|;", "", 2);
         dueTrees("S=a|a|b;", "a", 2);
         dueTrees("S=TT;T=a|;", "a", 2, 1);
+        dueTrees("S=a;T=S;", "a", 1, 1);
+        dueTrees("A=B;B=C;C=D;D=E;E=F;F=G;G=H;H=I;I=J;J=a|a;", "a", 2, 2, 2, 2, 2, 2, 2, 2, 2, 2);
+        dueTrees("A=B;B=C;C=D;D=E;E=F;F=G;G=H;H=I;I=J;J=|;", "", 2, 2, 2, 2, 2, 2, 2, 2, 2, 2);
         dueTrees("S=TTTTTT;T=a|;", "aaa", 20, 0);
         dueTrees("S=aS|;", "a".repeat(40), 1);
         dueTrees("S=aS|;", "a".repeat(39) + "b", 0);

@@ -11,12 +11,14 @@ public final class BoundaryWithin extends Talk {
         leastWitness();
         letterNoneSuch();
         nodesInOrder();
+        startBelowItself();
         nodeNoneSuch();
         anotherWhatOfNode();
         shortestWordFirst();
         thenLeastHeight();
         thenLeastRule();
         thenLeastStates();
+        noTreeBelowItself();
         witnessShortestFirst();
         witnessThenLeastHeight();
         witnessThenLeastState();
@@ -211,6 +213,31 @@ public final class BoundaryWithin extends Talk {
         }
     }
 
+    private static void startBelowItself() {
+        says(18, "Node k of it .. 2 and 3 the states before and behind (THE START below itself)");
+        GrammarGuard x = with("S=|aSb;", "!(aabb)", "");
+        due("within", x.within(0), 0);
+        due("nodes", x.witness(2), 3);
+        long[][] nodes = {{0, 1, 0, 5, 3, 4, 0}, {0, 1, 1, 4, 2, 2, 1}, {0, 0, 3, 3, 1, 0, 2}};
+        for (int k = 0; k < nodes.length; k++) {
+            for (int what = 0; what < nodes[k].length; what++) {
+                due("node " + k + " " + what, x.node(k, what), nodes[k][what]);
+            }
+        }
+        int[] word = {0, 0, 1, 1};
+        for (int i = 0; i < word.length; i++) {
+            due("letter " + i, x.letter(i), word[i]);
+        }
+        x = with("S=SS|b|a;", "!(a|ba)", "0");
+        due("within", x.within(0), 0);
+        due("rule of a alone", x.node(0, 1), 2);
+        expression(x, 0, "!(ba)");
+        due("within", x.within(0), 0);
+        due("behind the first S", x.node(1, 3), x.next(0, 0, 1));
+        due("the second S begins there", x.node(2, 2), x.next(0, 0, 1));
+        due("the second S's place", x.node(2, 6), 1);
+    }
+
     private static void nodeNoneSuch() {
         says(18, "NONE: none such, or none is at hand");
         GrammarGuard x = with("S=aT;T=;", "0", "!0");
@@ -261,6 +288,13 @@ public final class BoundaryWithin extends Talk {
         dueRule("S=T|UU|c;T=V;U=a;V=bb;", "!(aa|bb)", 0, 1);
         dueRule("S=aT;T=U|b;U=c;", "0", 1, 2);
         dueRule("S=T|TT;T=U|;U=;", "0", 1, 3);
+        dueRule("S=Xaaaaa|Y;X=Z;Z=;Y=aaaaa;", "0", 0, 1);
+        dueWitness("S=XY;X=V;V=W;W=;Y=aaaaa;", "0", 5, 4, 0);
+        GrammarGuard x = with("S=XYc;Y=aaaaa|;X=W|aaaaa;W=;", "!(aaaaac)", "");
+        due("within", x.within(0), 0);
+        due("height by X alone", x.witness(1), 2);
+        due("letters of X", x.node(1, 5), 5);
+        due("letters of Y", x.node(2, 5), 0);
     }
 
     private static void thenLeastRule() {
@@ -285,6 +319,20 @@ public final class BoundaryWithin extends Talk {
         x = with("S=aXY;X=d|c;Y=f|e;", "!(ace|adf)", "");
         due("within", x.within(0), 0);
         due("the lesser state goes ahead of the lesser rule below", x.node(1, 1), 2);
+    }
+
+    /** bc leads to state 1: by S to 2 and Y on to 1; by S to 1 itself and an empty Y it would stand below itself. */
+    private static void noTreeBelowItself() {
+        says(0, "THE TREE of a triple is a rule of X .. and with THE TREES of these");
+        GrammarGuard x = with("S=SY|b;Y=c|;", "!(a|bc)", "");
+        due("within", x.within(0), 0);
+        due("length", x.witness(0), 2);
+        due("height", x.witness(1), 2);
+        due("nodes", x.witness(2), 3);
+        due("last state", x.witness(3), 1);
+        due("the state behind S", x.node(1, 3), 2);
+        due("the rule of S", x.node(1, 1), 1);
+        due("the rule of Y", x.node(2, 1), 2);
     }
 
     private static void dueWitness(String grammar, String expression, long length, long height, long state) {
@@ -343,6 +391,10 @@ public final class BoundaryWithin extends Talk {
         due("copy of 40", x.copy(), 40);
         due("it is THE WORD", x.has(1), 1);
         due("it is THE WORD", x.trees(0), 1);
+        grammar(x, "S=jci;");
+        due("within", x.within(0), 0);
+        due("copy of three", x.copy(), 3);
+        dueWord(x, "jci");
         grammar(x, "S=;");
         due("within", x.within(0), 0);
         due("copy of none", x.copy(), 0);
@@ -386,6 +438,8 @@ public final class BoundaryWithin extends Talk {
         dueProduct("S=a|b;", "a", 4, 2);
         dueProduct("S=aT|bU;T=c;U=U;", "a", 6, 2);
         dueProduct("S=TT;T=|a;", "a", 11, 7);
+        dueProduct("S=TaU;T=b|;U=c|;", "(..)*", 12, 8, 16);
+        dueProduct("S=aT;T=bU;U=c|;", "abc", 6 + 6 + 9, 6);
     }
 
     private static void waysOfRules() {

@@ -129,6 +129,7 @@ public final class PromiseRuns extends Talk {
         due("six", grammar(x, "S=abcSSS;"), 1);
         due("seven", grammar(x, "S=abcSSSS;"), -2 - 8);
         due("seven", grammar(x, "S=|abc defg;"), -2 - 10);
+        x = new GrammarGuard();
         String ten = "A=;B=;C=;D=;E=;F=;G=;H=;I=;Z=ABC;";
         due("ten", grammar(x, ten), 10);
         due("eleven", grammar(x, ten + "K=;"), -2 - ten.length());
