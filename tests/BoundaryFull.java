@@ -106,7 +106,7 @@ public final class BoundaryFull extends Talk {
         due("state 40", x.next(1, STATES, 0), BAD);
     }
 
-    /** The words end just in the last one of all pairs that are come to, 38 times 37 letters long. */
+    /** The shortest word of both has 38 times 37 letters. */
     private static void fullApart() {
         says(14, "GREAT: it has more than 40 letters (by two machines of forty states)");
         GrammarGuard x = new GrammarGuard();
