@@ -107,7 +107,7 @@ public final class FaceRuns {
         GrammarGuard x = new GrammarGuard();
         long[] before = roomOf(x);
         System.out.println("an object has " + before[0] + " objects and arrays, " + before[1] + " fields and elements");
-        due("within the room of a run", before[0] < 600_000 && before[1] < 7_300_000, true);
+        due("small enough", before[0] < 1000 && before[1] < 1_000_000, true);
         Talk.tell(x, "S=SS|aTb|;T=STS|c;");
         x.grammar();
         Talk.tell(x, "!(.*a....)");
