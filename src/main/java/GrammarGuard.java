@@ -1700,6 +1700,7 @@ public final class GrammarGuard {
 
         private Grammar rules = new Grammar();
         private Machine machine = new Machine();
+        /** Triples are divided by this, so it is never 0. */
         private int states = 1;
         int root;
 
@@ -1746,7 +1747,7 @@ public final class GrammarGuard {
         private void prepare(Grammar grammar, Machine automaton) {
             rules = grammar;
             machine = automaton;
-            states = machine.states;
+            states = Math.max(1, machine.states);
             root = NOTHING;
             settled = 0;
             heapCount = 0;
